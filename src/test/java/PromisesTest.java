@@ -41,23 +41,12 @@ public final class PromisesTest {
         checks.due(call, got, want);
     }
 
-    /** Makes a file with these words; the file must not exist. */
     private static void make(NodeTableFiles x, int f, int... words) {
-        due("make: create " + f, x.create(f), 0);
-        for (int i = 0; i < words.length; i++) {
-            due("make: write " + f + " " + i, x.write(f, i, words[i]), i + 1);
-        }
+        checks.make(x, f, words);
     }
 
     private static void dueWords(String what, NodeTableFiles x, int f, int... words) {
-        due(what + ": exists", x.exists(f), true);
-        due(what + ": size", x.size(f), words.length);
-        for (int i = 0; i < words.length; i++) {
-            due(what + ": word " + i, x.read(f, i), words[i]);
-        }
-        for (int i = words.length; i < 5; i++) {
-            due(what + ": no word " + i, x.read(f, i), 0);
-        }
+        checks.dueWords(what, x, f, words);
     }
 
     private static void newObject() {
